@@ -1,0 +1,69 @@
+import java.lang.reflect.Field;
+
+/** Damage is done behind the class's back, and check() must answer other than 0. */
+public final class DamageTest {
+    private static final int WORDS = 16;
+    private static final int POOL_START = 16;
+    private static final int[] TABLES = {2, 9};
+    private static final int SIZE_WORD = 15;
+    private static final Due DUE = new Due();
+
+    public static void main(String[] args) throws ReflectiveOperationException {
+        ThinPool x = new ThinPool();
+        x.make(0);
+        for (int p = 0; p < 40; p += 3) {
+            x.write(0, p, 0, 128, p + 1);
+        }
+        x.snap(1, 0);
+        x.keep(0, 0);
+        x.write(1, 3, 0, 1, 9);
+        x.make(2);
+        x.write(2, 127, 127, 1, 1);
+        DUE.same("check() with no damage", x.check(), 0);
+        // Behind one keep() the second head counts: now lies in the first one's tables.
+        damageAll(x, "now", words(x, "memory"), TABLES[0]);
+        damageAll(x, "kept", words(x, "medium"), TABLES[1]);
+        DUE.same("check() with all damage mended", x.check(), 0);
+        DUE.end();
+    }
+
+    private static long[] words(ThinPool x, String name) throws ReflectiveOperationException {
+        Field field = ThinPool.class.getDeclaredField(name);
+        field.setAccessible(true);
+        Object image = field.get(x);
+        Field words = image.getClass().getDeclaredField("words");
+        words.setAccessible(true);
+        return (long[]) words.get(image);
+    }
+
+    private static void damageAll(ThinPool x, String name, long[] words, int tables) {
+        for (int i = 0; i < 6 * WORDS; i++) {
+            for (int b = 0; b < 8; b++) {
+                damage(x, name + ": a count", words, (tables + 1) * WORDS + i, 1L << 8 * b);
+            }
+        }
+        int root = (int) (words[tables * WORDS] & 0xFFFF);
+        int leaf = (int) (words[root * WORDS] & 0xFFFF);
+        int piece = (int) (words[leaf * WORDS] & 0xFFFF);
+        damage(x, name + ": a volume without its root", words, tables * WORDS, root);
+        damage(x, name + ": a root outside the pool", words, tables * WORDS, 0x8000);
+        damage(x, name + ": a root that is a leaf", words, tables * WORDS, root ^ leaf);
+        damage(x, name + ": one more volume", words, tables * WORDS + 3, root);
+        damage(x, name + ": a root's size", words, root * WORDS + SIZE_WORD, 1);
+        damage(x, name + ": a root without a leaf", words, root * WORDS, leaf);
+        damage(x, name + ": a leaf outside the pool", words, root * WORDS, leaf ^ POOL_START - 1);
+        damage(x, name + ": a leaf that is a root", words, root * WORDS, leaf ^ root);
+        damage(x, name + ": a leaf's size", words, leaf * WORDS + SIZE_WORD, 1);
+        damage(x, name + ": a leaf without a piece", words, leaf * WORDS, piece);
+        damage(x, name + ": a piece that is a leaf", words, leaf * WORDS, piece ^ leaf);
+        damage(x, name + ": one more piece", words, leaf * WORDS, (long) piece << 16);
+    }
+
+    private static void damage(ThinPool x, String what, long[] words, int at, long bits) {
+        long before = words[at];
+        words[at] = before ^ bits;
+        int answer = x.check();
+        words[at] = before;
+        DUE.isTrue(what + " is found, not " + answer, answer != 0);
+    }
+}
