@@ -224,12 +224,12 @@ public final class ThinPool {
         }
         writeBlocks(stop == 1, bits);
         if (stop == 1) {
-            on = false;
+            losePower();
             return OFF;
         }
         writeOtherHead(stop == 2, bits);
         if (stop == 2) {
-            on = false;
+            losePower();
             return OFF;
         }
         goOnFrom(otherHead());
@@ -240,7 +240,7 @@ public final class ThinPool {
         if (!on) {
             return OFF;
         }
-        on = false;
+        losePower();
         return 0;
     }
 
@@ -320,6 +320,12 @@ public final class ThinPool {
         memory.receiveAll(medium);
         goOnFrom(0);
         on = true;
+    }
+
+    /** What is in memory goes with it, so that mount() has nothing but the medium. */
+    private void losePower() {
+        memory.forgetAll();
+        on = false;
     }
 
     private int otherHead() {
@@ -432,6 +438,10 @@ public final class ThinPool {
             for (int i = first ? 0 : HALF; i < (last ? WORDS : HALF); i++) {
                 setWord(block, i, source.wordAt(block, i));
             }
+        }
+
+        void forgetAll() {
+            Arrays.fill(words, 0L);
         }
 
         void receiveAll(Image source) {

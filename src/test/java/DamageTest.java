@@ -1,8 +1,6 @@
-import java.lang.reflect.Field;
-
 /** Damage is done behind the class's back, and check() must answer other than 0. */
 public final class DamageTest {
-    private static final int WORDS = 16;
+    private static final int WORDS = Inside.WORDS;
     private static final int POOL_START = 16;
     private static final int[] TABLES = {2, 9};
     private static final int SIZE_WORD = 15;
@@ -21,19 +19,12 @@ public final class DamageTest {
         x.write(2, 127, 127, 1, 1);
         DUE.same("check() with no damage", x.check(), 0);
         // Behind one keep() the second head counts: now lies in the first one's tables.
-        damageAll(x, "now", words(x, "memory"), TABLES[0]);
-        damageAll(x, "kept", words(x, "medium"), TABLES[1]);
+        damageAll(x, "now", Inside.words(x, "memory"), TABLES[0]);
+        damageAll(x, "kept", Inside.words(x, "medium"), TABLES[1]);
+        damageOrder(x, "now", Inside.words(x, "memory"), TABLES[0]);
+        damageOrder(x, "kept", Inside.words(x, "medium"), TABLES[1]);
         DUE.same("check() with all damage mended", x.check(), 0);
         DUE.end();
-    }
-
-    private static long[] words(ThinPool x, String name) throws ReflectiveOperationException {
-        Field field = ThinPool.class.getDeclaredField(name);
-        field.setAccessible(true);
-        Object image = field.get(x);
-        Field words = image.getClass().getDeclaredField("words");
-        words.setAccessible(true);
-        return (long[]) words.get(image);
     }
 
     private static void damageAll(ThinPool x, String name, long[] words, int tables) {
@@ -57,6 +48,22 @@ public final class DamageTest {
         damage(x, name + ": a leaf without a piece", words, leaf * WORDS, piece);
         damage(x, name + ": a piece that is a leaf", words, leaf * WORDS, piece ^ leaf);
         damage(x, name + ": one more piece", words, leaf * WORDS, (long) piece << 16);
+    }
+
+    /** Damage that leaves all counts right: only the trees themselves are not in order. */
+    private static void damageOrder(ThinPool x, String name, long[] words, int tables) {
+        int root = (int) (words[tables * WORDS] & 0xFFFF);
+        int leaf = (int) (words[root * WORDS] & 0xFFFF);
+        int piece = (int) (words[leaf * WORDS] & 0xFFFF);
+        int free = 783;
+        long[] whole = words.clone();
+        for (int link : new int[] {piece, free}) {
+            words[piece * WORDS + SIZE_WORD] = 0;
+            words[root * WORDS] |= (long) link << 48;
+            words[(tables + 1) * WORDS + (link - POOL_START) / 8] += 1L << 8 * ((link - POOL_START) % 8);
+            DUE.isTrue(name + ": a leaf that is " + (link == free ? "empty" : "a piece"), x.check() != 0);
+            System.arraycopy(whole, 0, words, 0, words.length);
+        }
     }
 
     private static void damage(ThinPool x, String what, long[] words, int at, long bits) {

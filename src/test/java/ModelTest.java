@@ -4,6 +4,8 @@ import java.util.Random;
 public final class ModelTest {
     private static final int RUNS = 1500;
     private static final int CALLS = 512;
+    // Beyond what is promised: only so many calls make blocks be taken again and again.
+    private static final int MANY_CALLS = 6000;
     private static final int[] ODD = {-1, Integer.MIN_VALUE, Integer.MAX_VALUE, -2, 1 << 16, 1 << 30};
 
     private final Due due = new Due();
@@ -35,13 +37,27 @@ public final class ModelTest {
     }
 
     private void go(int seed) {
-        for (int i = 0; i < CALLS && due.wrongAnswers() == 0; i++) {
+        if (seed % 5 == 1) {
+            fillAlmost();
+        }
+        int calls = seed % 10 == 0 ? MANY_CALLS : CALLS;
+        for (int i = 0; i < calls && due.wrongAnswers() == 0; i++) {
             callOnce("run " + seed + ", call " + i + ": ");
         }
         compareAll("run " + seed + ", at its end: ");
         due.same("fail", pool.fail(), model.fail());
         due.same("mount", pool.mount(), model.mount());
         compareAll("run " + seed + ", behind a loss of power: ");
+    }
+
+    /** 291 pieces, so that the run goes on near the limit of 300. */
+    private void fillAlmost() {
+        due.same("make(0)", pool.make(0), model.make(0));
+        for (int p = 0; p < 97; p++) {
+            due.same("write(0, " + p + ", ..)", pool.write(0, p, p, 3, p), model.write(0, p, p, 3, p));
+        }
+        due.same("snap(1, 0)", pool.snap(1, 0), model.snap(1, 0));
+        due.same("snap(2, 0)", pool.snap(2, 0), model.snap(2, 0));
     }
 
     /** A number below the end, or now and then one at it or far away. */
