@@ -263,7 +263,7 @@ public final class ThinPool {
                 return countVolumes();
             case 1:
                 // lay() wrote number 1, and each keep() that counted the one behind it.
-                return numberOf(head) - 1;
+                return keptNumber() - 1;
             default:
                 return BAD;
         }
@@ -336,8 +336,8 @@ public final class ThinPool {
         return medium.wordAt(1, NUMBER_WORD) > medium.wordAt(0, NUMBER_WORD) ? 1 : 0;
     }
 
-    private int numberOf(int whichHead) {
-        return (int) memory.wordAt(whichHead, NUMBER_WORD);
+    private int keptNumber() {
+        return (int) memory.wordAt(head, NUMBER_WORD);
     }
 
     private void goOnFrom(int keptHead) {
@@ -361,7 +361,7 @@ public final class ThinPool {
     }
 
     private void writeOtherHead(boolean stopped, long bits) {
-        memory.setWord(otherHead(), NUMBER_WORD, numberOf(head) + 1L);
+        memory.setWord(otherHead(), NUMBER_WORD, keptNumber() + 1L);
         medium.receive(memory, otherHead(), partDown(stopped, bits, 0));
     }
 
