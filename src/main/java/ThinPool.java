@@ -51,6 +51,8 @@ public final class ThinPool {
     private final Image memory;
     private final Image medium;
     private final Trees trees;
+    private final Tables ofFirstHeadDown;
+    private final Tables ofSecondHeadDown;
     private final Audit audit;
     private int head;
     private boolean on;
@@ -59,6 +61,8 @@ public final class ThinPool {
         memory = new Image();
         medium = new Image();
         trees = new Trees(memory);
+        ofFirstHeadDown = new Tables(medium, 0);
+        ofSecondHeadDown = new Tables(medium, 1);
         audit = new Audit();
         layEmpty();
     }
@@ -274,7 +278,7 @@ public final class ThinPool {
             return OFF;
         }
         int fault = audit.firstFault(memory, trees.now);
-        return fault != NONE ? fault : audit.firstFault(medium, new Tables(medium, head));
+        return fault != NONE ? fault : audit.firstFault(medium, tablesDown());
     }
 
     private static boolean isVolume(int volume) {
@@ -326,6 +330,10 @@ public final class ThinPool {
     private void losePower() {
         memory.forgetAll();
         on = false;
+    }
+
+    private Tables tablesDown() {
+        return head == 0 ? ofFirstHeadDown : ofSecondHeadDown;
     }
 
     private int otherHead() {

@@ -1,6 +1,7 @@
 /**
  * The most blocks that can be in use: 300 pieces in 16 volumes with every leaf there, kept,
- * and then all of them written again. It takes more than 512 calls, and still must hold.
+ * and then all of them written again. The 512 calls that are promised can't get so far; this
+ * goes beyond them, to show that the pool's size is enough whatever they do.
  */
 public final class FullPoolTest {
     private static final Due DUE = new Due();

@@ -7,12 +7,32 @@ public final class MediumTest {
     private static final int POOL_START = 16;
     private static final Due DUE = new Due();
 
-    public static void main(String[] args) throws ReflectiveOperationException {
+    public static void main(String[] args) {
         for (long bits : new long[] {0, 1, 2, 3, -1, 0x1B1B1B1B1B1B1B1BL, 0xAAAAAAAAAAAAAAAAL, Long.MIN_VALUE}) {
-            stopInBlocks(bits);
+            stopInBlocks(underWay(), bits);
+            stopInBlocks(fewUnderWay(), bits);
             stopInHead(bits);
         }
+        for (int place = 0; place < 32; place++) {
+            for (long part = 1; part < 4; part++) {
+                stopInBlocks(underWay(), part << 2 * place);
+                stopInBlocks(fewUnderWay(), part << 2 * place);
+            }
+        }
+        loseMemory();
         DUE.end();
+    }
+
+    /** The bits reach all of these: three blocks of the pool, and the tables. */
+    private static ThinPool fewUnderWay() {
+        ThinPool x = new ThinPool();
+        x.make(0);
+        writePieces(x, 0, 40);
+        x.keep(0, 0);
+        writePieces(x, 60, 61);
+        x.tell(31, 255);
+        DUE.same("blocks under way", blocksUnderWay(Inside.words(x, "memory")).size(), 3 + 7);
+        return x;
     }
 
     /** Pieces 0 to 39 of volume 0 kept, then 50 more, which makes over 50 blocks under way. */
@@ -22,6 +42,7 @@ public final class MediumTest {
         writePieces(x, 0, 40);
         x.keep(0, 0);
         writePieces(x, 30, 90);
+        DUE.isTrue("more than 32 blocks are under way", blocksUnderWay(Inside.words(x, "memory")).size() > 32);
         return x;
     }
 
@@ -31,13 +52,11 @@ public final class MediumTest {
         }
     }
 
-    private static void stopInBlocks(long bits) throws ReflectiveOperationException {
-        ThinPool x = underWay();
+    private static void stopInBlocks(ThinPool x, long bits) {
         long[] medium = Inside.words(x, "medium");
         long[] memory = Inside.words(x, "memory").clone();
         long[] before = medium.clone();
         List<Integer> blocks = blocksUnderWay(memory);
-        DUE.isTrue("more than 32 blocks are under way", blocks.size() > 32);
         x.keep(1, bits);
         int place = 0;
         for (int block : blocks) {
@@ -73,7 +92,7 @@ public final class MediumTest {
         return (int) (words[(tables + 1) * WORDS + i / 8] >>> 8 * (i % 8)) & 255;
     }
 
-    private static void stopInHead(long bits) throws ReflectiveOperationException {
+    private static void stopInHead(long bits) {
         ThinPool x = underWay();
         long[] medium = Inside.words(x, "medium");
         long[] memory = Inside.words(x, "memory").clone();
@@ -85,6 +104,21 @@ public final class MediumTest {
         for (int block : blocksUnderWay(memory)) {
             dueParts(bits + ": stage 1 is all down", medium, memory, block, 0);
             dueParts(bits + ": stage 1 is all down", medium, memory, block, 8);
+        }
+    }
+
+    /** By each way to lose power all that was in memory is gone. */
+    private static void loseMemory() {
+        ThinPool failed = underWay();
+        failed.fail();
+        ThinPool stopped = underWay();
+        stopped.keep(1, -1);
+        ThinPool stoppedLater = underWay();
+        stoppedLater.keep(2, 1);
+        for (ThinPool x : new ThinPool[] {failed, stopped, stoppedLater}) {
+            for (long word : Inside.words(x, "memory")) {
+                DUE.same("a word in memory without power", word, 0);
+            }
         }
     }
 

@@ -161,6 +161,10 @@ final class Model {
         return on ? 0 : ThinPool.OFF;
     }
 
+    boolean isOn() {
+        return on;
+    }
+
     private static boolean out(int i, int end) {
         return i < 0 || i >= end;
     }
