@@ -278,6 +278,10 @@ public final class ThinPool {
             return OFF;
         }
         int fault = audit.firstFault(memory, trees.now);
+        if (fault == NONE) {
+            // These counts, and not those on the medium, say which blocks are not written over.
+            fault = audit.firstFault(memory, trees.kept);
+        }
         return fault != NONE ? fault : audit.firstFault(medium, tablesDown());
     }
 

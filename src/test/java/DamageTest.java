@@ -18,9 +18,11 @@ public final class DamageTest {
         ThinPool x = inUse(head == 1 ? 1 : 2);
         DUE.same("check() with no damage", x.check(), 0);
         damageAll(x, "now", Inside.words(x, "memory"), TABLES[1 - head]);
-        damageAll(x, "kept", Inside.words(x, "medium"), TABLES[head]);
+        damageAll(x, "kept, in memory", Inside.words(x, "memory"), TABLES[head]);
+        damageAll(x, "kept, on the medium", Inside.words(x, "medium"), TABLES[head]);
         damageOrder(x, "now", Inside.words(x, "memory"), TABLES[1 - head]);
-        damageOrder(x, "kept", Inside.words(x, "medium"), TABLES[head]);
+        damageOrder(x, "kept, in memory", Inside.words(x, "memory"), TABLES[head]);
+        damageOrder(x, "kept, on the medium", Inside.words(x, "medium"), TABLES[head]);
         DUE.same("check() with all damage mended", x.check(), 0);
     }
 
